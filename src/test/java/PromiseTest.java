@@ -575,6 +575,10 @@ public final class PromiseTest {
         due("25 no step", x.goat(5, 20, 0, 2, 1), 1);
         due("25 never", x.goat(5, 20, 0, 1, 0), 0);
         due("25 never", x.goat(5, 20, 0, 1, 1), 1);
+        due("25 six steps", x.goat(20, 20, 6, 2, 0), 231);
+        due("25 six steps", x.goat(20, 20, 6, 2, 1), 1024);
+        due("25 six steps", x.goat(20, 20, 6, 0, 0), 793);
+        due("25 six steps", x.goat(20, 20, 6, 1, 1), 2048);
         due("25 two steps", x.goat(5, 20, 2, 2, 0), 3);
         due("25 two steps", x.goat(5, 20, 2, 2, 1), 8);
         x.set(0, 0);
