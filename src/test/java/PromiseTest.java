@@ -8,19 +8,12 @@ public final class PromiseTest {
     }
 
     private static void text(StandingLine x, String text) {
-        x.wipe();
-        for (int i = 0; i < text.length(); i++) {
-            due("say " + text.charAt(i), x.say(text.charAt(i)), i + 1);
-        }
+        Scene.text(x, text);
+        due("8 the pad holds " + text, x.told(0), text.length());
     }
 
-    /** Three in a row over the middle: A (10, 20), C (20, 24), B (30, 20). */
     private static StandingLine threeStand() {
-        StandingLine x = new StandingLine();
-        x.stand(0, 10, 20, 0);
-        x.stand(1, 30, 20, 1);
-        x.stand(2, 20, 24, 1);
-        return x;
+        return Scene.threeStand();
     }
 
     public static void main(String[] args) {
