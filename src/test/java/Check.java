@@ -37,7 +37,7 @@ final class Check {
 
     /** Numbers that a byte, a char or a shift would wrap around into the range are among them. */
     static int[] beyond(int least, int greatest) {
-        return new int[] {least - 1, greatest + 1, least - 256, least + 256, greatest + 65536, least - 65536,
+        return new int[] {least - 1, greatest + 1, least - 256, greatest + 256, greatest + 65536, least - 65536,
             Integer.MIN_VALUE, Integer.MIN_VALUE + least, Integer.MAX_VALUE};
     }
 
