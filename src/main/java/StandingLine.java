@@ -620,15 +620,14 @@ public final class StandingLine {
 
         /** ON_LINE if the point is on the piece, 1 if the piece lies straight to the north of it, else 0. */
         static int sideOfPiece(int fromX, int fromY, int toX, int toY, int x, int y) {
-            int greater = Math.max(fromX, toX);
-            if (x < Math.min(fromX, toX) || x > greater) {
+            if ((x - fromX) * (x - toX) > 0) {
                 return 0;
             }
             int turn = (toX - fromX) * (y - fromY) - (toY - fromY) * (x - fromX);
-            if (turn == 0 && y >= Math.min(fromY, toY) && y <= Math.max(fromY, toY)) {
+            if (turn == 0 && (y - fromY) * (y - toY) <= 0) {
                 return ON_LINE;
             }
-            if (x == greater) {
+            if (x >= fromX && x >= toX) {
                 return 0;
             }
             return (fromX < toX ? turn < 0 : turn > 0) ? 1 : 0;

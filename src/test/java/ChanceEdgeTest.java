@@ -55,6 +55,10 @@ public final class ChanceEdgeTest {
                 dueGoat(x, 5, heights[at], 0, side, at == side ? 1 : 0, 1);
             }
         }
+        dueGoat(x, 20, 20, 6, 2, 231, 1024);
+        dueGoat(x, 20, 20, 0, 2, 1, 1);
+        dueGoat(x, 20, 20, 0, 0, 0, 1);
+        dueGoat(x, 20, 20, 0, 1, 0, 1);
     }
 
     private static void lowestTerms() {
@@ -89,6 +93,10 @@ public final class ChanceEdgeTest {
         dueGoat(straight(0), 0, 20, 1, 2, 3, 4);
         dueGoat(straight(40), 40, 20, 1, 2, 3, 4);
         dueGoat(straight(20), 20, 20, 1, 2, 1, 2);
+        dueGoat(straight(1), 0, 20, 1, 2, 1, 4);
+        dueGoat(straight(39), 40, 20, 1, 2, 1, 4);
+        dueGoat(Scene.ends(1, 1), 20, 0, 1, 2, 1, 4);
+        dueGoat(Scene.ends(39, 39), 20, 40, 1, 2, 1, 4);
         dueGoat(Scene.ends(0, 0), 20, 1, 1, 2, 1, 4);
         dueGoat(Scene.ends(40, 40), 20, 39, 1, 2, 1, 4);
     }

@@ -7,6 +7,7 @@ public final class ImagesEdgeTest {
         restoreNumbers();
         itWasNotKept();
         allIsAsItWas();
+        sightsAreAsTheyWere();
         allButThePad();
         keptAnew();
         restoredAgain();
@@ -73,6 +74,23 @@ public final class ImagesEdgeTest {
         Check.holds("another one now", !Scene.lookAt(x).equals(before));
         x.restore(1);
         Check.holds("the old one", Scene.lookAt(x).equals(before));
+    }
+
+    /** Each of these differs from the sight that is kept by x, by y or by its side alone. */
+    private static void sightsAreAsTheyWere() {
+        Check.sentence("It is as it was when it was kept: each SIGHT, too");
+        int[][] others = {{30, 25, 2}, {10, 15, 2}, {10, 25, 1}};
+        for (int[] other : others) {
+            StandingLine x = Scene.ends(14, 35);
+            Check.due("side(10, 25)", x.side(10, 25), 0);
+            x.seen(10, 25, 2);
+            x.image(0);
+            x.forget();
+            x.seen(other[0], other[1], other[2]);
+            x.restore(0);
+            x.stand(0, 10, 22, 0);
+            Check.due("moved(0): three steps to the north", x.moved(0), 1);
+        }
     }
 
     private static void allButThePad() {

@@ -114,6 +114,12 @@ public final class SidesEdgeTest {
         StandingLine up = row(20, 20, 20, 10, 20, 30);
         Check.due("below it, going north", up.side(20, 9), 1);
         Check.due("above it, going north", up.side(20, 31), 0);
+        for (StandingLine line : new StandingLine[] {x, up}) {
+            Check.due("one step to the west of it, below", line.side(19, 5), 1);
+            Check.due("one step to the east of it, below", line.side(21, 5), 1);
+            Check.due("one step to the west of it, above", line.side(19, 35), 0);
+            Check.due("one step to the east of it, above", line.side(21, 35), 0);
+        }
         StandingLine twice = row(20, 20, 20, 10, 20, 20, 20, 30);
         Check.due("below two of them", twice.side(20, 5), 1);
         Check.due("on both", twice.side(20, 20), 2);
@@ -162,6 +168,8 @@ public final class SidesEdgeTest {
         Check.due("straight back south", row(20, 20, 10, 20, 10, 30, 10, 25).south(1), 12);
         Check.due("slantwise back", row(0, 40, 10, 11, 9, 10).south(1), 1);
         Check.due("slantwise back, but by one step beside", row(0, 40, 10, 11, 9, 11).south(1), NONE);
+        Check.due("slantwise back, further on", row(20, 0, 5, 5, 15, 15, 10, 10).south(1), 12);
+        Check.due("slantwise back, further on", row(20, 0, 5, 10, 15, 15, 11, 13).south(1), 12);
         Check.due("back and further than it came", row(40, 20, 10, 30, 10, 20, 10, 35).south(1), 2);
     }
 

@@ -11,6 +11,8 @@ public final class StepsEdgeTest {
         swayLeastPerson();
         swayLeastPoint();
         swayFarthest();
+        swayWithinTheLand();
+        swayOthersStanding();
         swayPinchedNoMatter();
         fairWhat();
         fairWithoutAMinus();
@@ -111,6 +113,29 @@ public final class StepsEdgeTest {
         dueSway(Scene.oneStands(3, 0, 0, 0, 0), 40, 40, 2, 80, 3, 2040);
         dueSway(Scene.oneStands(3, 40, 40, 0, 0), 0, 40, 2, 40, 3, 40);
         dueSway(Scene.oneStands(3, 40, 0, 0, 0), 0, 40, 2, 80, 3, 40);
+    }
+
+    private static void swayWithinTheLand() {
+        Check.sentence("must be moved by, to a point (x 0 to 40, y 0 to 40)");
+        dueSway(Scene.oneStands(0, 0, 24, 20, 20), 20, 22, 2, 22, 0, 1022);
+        dueSway(Scene.oneStands(0, 40, 24, 20, 20), 20, 22, 2, 22, 0, 1022);
+        dueSway(Scene.oneStands(0, 20, 0, 20, 20), 20, 0, 0, NONE);
+        dueSway(Scene.oneStands(0, 20, 40, 20, 20), 20, 40, 1, NONE);
+    }
+
+    /** The pieces at A lie to the north of (15, 20), which the first is on, and of (15, 22), as the last does at first. */
+    private static void swayOthersStanding() {
+        Check.sentence("that one PERSON, the others standing, must be moved by");
+        StandingLine x = new StandingLine();
+        x.stand(1, 30, 20, 0);
+        x.stand(0, 20, 30, 1);
+        x.stand(2, 10, 25, 2);
+        dueSway(x, 15, 20, 2, 0, 0, 1030);
+        dueSway(x, 15, 22, 0, 0, 0, 1030);
+        dueSway(x, 15, 10, 1, 0, 0, 1030);
+        x.leave(2);
+        x.stand(2, 10, 15, 2);
+        dueSway(x, 15, 20, 2, 0, 0, 1030);
     }
 
     private static void swayPinchedNoMatter() {
@@ -279,6 +304,11 @@ public final class StepsEdgeTest {
         even.stand(1, 21, 10, 1);
         even.village(0, 20, 20);
         dueOrders("on the LINE in the end, but not between", even, 0, NONE);
+        StandingLine least = new StandingLine();
+        least.stand(0, 10, 40, 0);
+        least.stand(1, 12, 0, 1);
+        least.village(0, 20, 21);
+        dueOrders("the least must die first", least, 1, 0);
     }
 
     private static void crownsTurns() {
