@@ -295,12 +295,12 @@ public final class StandingLine {
         }
         stray.walk(x, y, k);
         int upper = stray.waysTo(book.line, side);
-        int lower = 1 << (2 * k);
-        while (lower > 1 && upper % 2 == 0) {
+        int halvings = 2 * k;
+        while (halvings > 0 && upper % 2 == 0) {
             upper /= 2;
-            lower /= 2;
+            halvings--;
         }
-        return part == 0 ? upper : lower;
+        return part == 0 ? upper : 1 << halvings;
     }
 
     public int year(int seed, int m, int what) {
